@@ -600,19 +600,16 @@ public final class SortedBlocks {
             }
         }
 
+        /** Lengths that fit no tree can use up all codes: behind all 1 they begin again with all 0. */
         private void placeLengths() {
             int before = 0;
             int code = 0;
-            int codeLength = 0;
             for (int length = 1; length <= MOST_LENGTH; length++) {
+                code <<= 1;
+                first[length] = code;
                 start[length] = before;
-                first[length] = 0;
-                if (many[length] > 0) {
-                    first[length] = code << (length - codeLength);
-                    code = first[length] + many[length] & mask(length);
-                    codeLength = length;
-                    before += many[length];
-                }
+                code = code + many[length] & mask(length);
+                before += many[length];
             }
         }
 

@@ -176,7 +176,10 @@ public final class FaultsTest {
         atLast("length 0 in the second table", text.number(0, 5), SortedBlocks.LENGTH);
         // up and down again is no fault, not even for symbol 0
         text = start().blockHead(CHECK_A, 0, 1).number(1, 3).number(1, 6).bits("0");
-        text.number(11, 5).all("10", "11", "11", "0").all("11", "11", "11", "11", "11", "11", "11", "11", "11");
+        text.number(11, 5).all("10", "11", "11", "0");
+        for (int k = 0; k < 9; k++) {
+            text.bits("11");
+        }
         text.all("10", "0").all("11", "0");
         // lengths 10, 2, 1: the END is 0, B is 10, A is 11 and eight bits 0
         text.all("1100000000", "0").end(CHECK_A);
@@ -353,6 +356,8 @@ public final class FaultsTest {
         atLast("another total", start().letterBlock(CHECK_A, 0, "10", "0").end(CHECK_A ^ 0x8000),
                 SortedBlocks.TOTAL);
         atLast("total of none", start().end(1), SortedBlocks.TOTAL);
+        atLast("total 0 of one block", start().letterBlock(CHECK_A, 0, "10", "0").end(0),
+                SortedBlocks.TOTAL);
         Text text = start().letterBlock(CHECK_A, 0, "10", "0").letterBlock(CHECK_A, 0, "10", "0");
         int turned = (CHECK_A << 1 | CHECK_A >> 15) & 65535;
         Due.same("a 1 is turned round", CHECK_A >> 15, 1);

@@ -241,7 +241,8 @@ public final class ModelTest {
     }
 
     private void makeTables(Model.Told b) {
-        int groups = Math.min(63, (b.symbols.size() + 7) / 8 + (random.nextInt(3) == 0 ? random.nextInt(60) : 0));
+        int extra = random.nextInt(3) == 0 ? random.nextInt(60) : 0;
+        int groups = Math.min(63, (b.symbols.size() + 7) / 8 + extra);
         groups -= random.nextInt(20) == 0 ? 1 : 0;
         int tables = 1 + random.nextInt(4);
         for (int g = 0; g < groups; g++) {
@@ -269,7 +270,8 @@ public final class ModelTest {
         for (int[] lengths : b.lengths) {
             String table = Model.writeLengths(lengths);
             // a length may also go up and down again
-            text += random.nextInt(9) == 0 && lengths[0] < 12 ? table.substring(0, 5) + "1011" + table.substring(5) : table;
+            boolean detour = random.nextInt(9) == 0 && lengths[0] < 12;
+            text += table.substring(0, 5) + (detour ? "1011" : "") + table.substring(5);
         }
         for (int i = 0; i < b.symbols.size() && i / 8 < b.picks.size(); i++) {
             text += Model.codes(b.lengths.get(b.picks.get(i / 8)))[b.symbols.get(i)];
