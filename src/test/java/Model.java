@@ -43,6 +43,10 @@ final class Model {
     int at = -1;
     int blocks = 0;
     Told told = null;
+    /** The blocks of the latest unpack without a fault, which the program does not tell. */
+    List<Told> all = new ArrayList<>();
+    /** How many bits the latest pack wrote before it filled the last byte. */
+    int packedBits = 0;
 
     private String bits;
     private int place;
@@ -107,6 +111,7 @@ final class Model {
             blocks++;
         }
         text += END + number(total, 16);
+        packedBits = text.length();
         while (text.length() % 8 != 0) {
             text += "0";
         }
@@ -132,6 +137,7 @@ final class Model {
             return f.kind;
         }
         out = fresh;
+        all = read;
         blocks = read.size();
         told = read.isEmpty() ? null : read.get(read.size() - 1);
         return out.size();
@@ -258,9 +264,14 @@ final class Model {
     }
 
     static Told blockOf(List<Integer> bytes) {
-        Told b = new Told();
+        Told b = blockOfForm(shorten(bytes));
         b.check = checkOf(bytes);
-        b.shortened = shorten(bytes);
+        return b;
+    }
+
+    static Told blockOfForm(List<Integer> form) {
+        Told b = new Told();
+        b.shortened = form;
         sort(b);
         symbols(b);
         pick(b);

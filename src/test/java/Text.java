@@ -83,8 +83,49 @@ final class Text {
         return row;
     }
 
+    /** A row in runs of 20, which is long and yet packed to few bytes. */
+    static List<Integer> stairs(int n) {
+        List<Integer> row = new ArrayList<>();
+        for (int i = 0; i < n; i++) {
+            row.add(i / 20 * 11 & 255);
+        }
+        return row;
+    }
+
+    /** The first so many bytes of 0, 1, .. 255, without a run. */
+    static List<Integer> rising(int n) {
+        List<Integer> row = new ArrayList<>();
+        for (int i = 0; i < n; i++) {
+            row.add(i);
+        }
+        return row;
+    }
+
     static List<Integer> many(int n, int value) {
         return Collections.nCopies(n, value);
+    }
+
+    /** A stream of a block whose one shortened form this is, read as it stands even if pack makes none such. */
+    static List<Integer> streamOfForm(int level, List<Integer> form) {
+        String block = blockOfForm(form);
+        int check = Integer.parseInt(block.substring(24, 40), 2);
+        return new Text().head(level).bits(block).end(check).bytes();
+    }
+
+    /** The bits of a block with this shortened form and the check that it asks for. */
+    static String blockOfForm(List<Integer> form) {
+        Model.Told b = Model.blockOfForm(form);
+        b.check = Model.checkOf(Model.lengthen(b, 0));
+        return Model.BLOCK + Model.write(b);
+    }
+
+    /** The bits of the block of these bytes, as pack writes them. */
+    static String block(List<Integer> bytes) {
+        return Model.BLOCK + Model.write(Model.blockOf(bytes));
+    }
+
+    static String block(String letters) {
+        return block(letters(letters));
     }
 
     @SafeVarargs
