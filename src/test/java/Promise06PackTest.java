@@ -87,9 +87,13 @@ public final class Promise06PackTest {
         check(Text.letters("A"), 0xB915);
         check(Text.letters("123456789"), 0x29B1);
         check(BANANA, BANANA_CHECK);
+        // the first byte leaves 0xFF00, so that the second one makes it 0x8000: only a 1 that goes out
+        check(List.of(255, 127), 0x9188);
+        check(List.of(255, 254), 0x1021);
     }
 
     static void checkMayBeNothingButZeros() {
+        check(List.of(255, 255), 0);
         // bytes with their own check behind them have the check 0
         check(List.of(0, 0xE1, 0xF0), 0);
         List<Integer> stream = Due.packed(List.of(0, 0xE1, 0xF0), 2);
@@ -99,14 +103,12 @@ public final class Promise06PackTest {
     }
 
     static void checkMayBeNothingButOnes() {
-        // two bytes that take away the ones of the beginning, and two that bring them back
-        for (int high = 0; high < 256; high++) {
-            for (int low = 0; low < 256; low++) {
-                if (Model.checkOf(List.of(1, high, low)) == 0xFFFF) {
-                    check(List.of(1, high, low), 0xFFFF);
-                    SortedBlocks x = Due.fed(Due.packed(List.of(1, high, low), 2));
-                    Due.same("unpack", x.unpack(), 3);
-                }
+        // of all pairs of bytes behind a 1 just one leaves all 1
+        for (int pair = 0; pair < 65536; pair++) {
+            List<Integer> bytes = List.of(1, pair / 256, pair % 256);
+            if (Model.checkOf(bytes) == 0xFFFF) {
+                check(bytes, 0xFFFF);
+                Due.same("unpack", Due.fed(Due.packed(bytes, 2)).unpack(), 3);
             }
         }
     }
@@ -116,8 +118,7 @@ public final class Promise06PackTest {
         Due.same("check of " + bytes, x.block(4), due);
         String bits = Model.bitsOf(Due.out(x));
         Due.same("written check of " + bytes, bits.substring(48, 64), Model.number(due, 16));
-        Due.same("total of one block " + bytes, x.size() >= 2 && bits.contains(Model.END + Model.number(due, 16)),
-                true);
+        Due.same("total of one block " + bytes, bits.contains(Model.END + Model.number(due, 16)), true);
     }
 
     static void checkIsOfTheBytesBeforeTheyAreShortened() {

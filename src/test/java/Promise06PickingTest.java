@@ -44,18 +44,17 @@ public final class Promise06PickingTest {
     }
 
     static void writtenNumberOfTablesAndGroups() {
-        // 65 kinds cannot be: 64 bytes in four maps, behind the first 16 bits
+        // the bytes 0 .. 63 are in four maps, which stand behind 70 bits and the first 16
         String bits = Model.bitsOf(Due.packed(Text.rising(64), 8));
         Due.same("three tables and nine groups", bits.substring(70 + 5 * 16, 70 + 5 * 16 + 9), "011" + "001001");
         bits = Model.bitsOf(Due.packed(List.of(7), 8));
         Due.same("two tables and one group", bits.substring(70 + 2 * 16, 70 + 2 * 16 + 9), "010" + "000001");
     }
 
-    /** Only the END has a weight above 1 in no table: ties are broken by age. */
-    static void lengthsOfEqualWeights() {
-        // one byte: the symbols A, B and END, once A and END in the first table, all 1 in the second
+    static void ofEqualWeightsTheOlderOnesAreJoinedFirst() {
+        // the symbols A and END once each, and B not at all: all weights are 1
         SortedBlocks x = Due.afterPack(List.of(7), 1);
-        // A and B are the first two, so the END is alone
+        // A and B are the oldest, so the END is joined last
         Due.same("table 0", Due.lengths(x, 0), List.of(2, 2, 1));
         Due.same("table 1", Due.lengths(x, 1), List.of(2, 2, 1));
     }
@@ -110,9 +109,8 @@ public final class Promise06PickingTest {
         }
     }
 
-    /** The greatest difference of lengths that pack has is written with as many bits 10 or 11. */
+    /** Many kinds of bytes of which some are far more frequent: lengths that are far from each other. */
     static void lengthsGoUpAndDownStepByStep() {
-        // 64 symbols of which one is by far the most frequent
         List<Integer> row = new ArrayList<>();
         for (int i = 0; i < 24; i++) {
             row.addAll(List.of(200, 201));

@@ -147,7 +147,7 @@ public final class Promise06ShorteningTest {
             Due.same("blocks at level " + level, x.blocks(), (400 + most - 1) / most);
             Due.same("last one at level " + level, x.block(1), (400 - 1) % most + 1);
         }
-        // with three equal bytes at the end of each block, seven are had
+        // three equal bytes and a piece of five fill a block of level 1
         List<Integer> runs = new ArrayList<>();
         for (int i = 0; i < 50; i++) {
             runs.addAll(List.of(i, i, i, i + 100, i + 100, i + 100, i + 100, i + 100));

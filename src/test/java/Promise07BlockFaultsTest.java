@@ -80,21 +80,14 @@ public final class Promise07BlockFaultsTest {
         Read.faultInLast("no code behind a full group", text.bits("111111111111"), SortedBlocks.MORE);
     }
 
-    static void aPlaceTakes8TimesLevelAndRefusesOneMore() {
+    static void aPlaceBehind8TimesLevelIsRefused() {
         for (int level = 1; level <= 8; level++) {
-            int most = 8 * level;
-            Text tooMuch = repeat(twoLetters(level, 0, 0, 63), most, "10").bits("10");
-            Read.faultInLast("a place too much for level " + level, tooMuch, SortedBlocks.MORE);
-            // of all origins one at least is not read as a piece without its end
-            Text just = repeat(twoLetters(level, 0, most - 1, 63), most, "10").bits("11");
-            SortedBlocks x = Due.fed(just.bytes());
-            int answer = x.unpack();
-            Due.same("just enough for level " + level,
-                    answer == SortedBlocks.CHECK || answer == SortedBlocks.LACK, true);
+            Text text = repeat(twoLetters(level, 0, 0, 63), 8 * level, "10").bits("10");
+            Read.faultInLast("a place too much for level " + level, text, SortedBlocks.MORE);
         }
     }
 
-    static void aFullBlockOfEachLevelIsTaken() {
+    static void aBlockOf8TimesLevelIsTaken() {
         for (int level = 1; level <= 8; level++) {
             List<Integer> bytes = Text.rising(8 * level);
             SortedBlocks x = Read.fine("full block of level " + level, Text.streamOfForm(level, bytes), bytes);

@@ -117,6 +117,10 @@ public final class Promise07UnpackTest {
         SortedBlocks y = Due.fed(stream.subList(0, 20));
         y.unpack();
         Due.same("IN after a fault", Due.in(y), stream.subList(0, 20));
+        List<Integer> tooMuch = blocksOf(400, 400, 400, 400, 400, 1).bytes();
+        SortedBlocks z = Due.fed(tooMuch);
+        Due.refused("2001 bytes", IllegalStateException.class, z::unpack);
+        Due.same("IN after a refusal", Due.in(z), tooMuch);
     }
 
     // ---- 2000 bytes ----

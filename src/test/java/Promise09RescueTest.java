@@ -176,7 +176,8 @@ public final class Promise09RescueTest {
         Due.same("one whole, one cut off", x.rescue(), 1);
         SortedBlocks packed = Due.afterPack(BANANA, 1);
         Due.same("told", Seen.told(x), Seen.told(packed));
-        SortedBlocks y = Due.fed(new Text().bits(Text.block("xyz")).bits(BLOCK).bits(broken(Text.block("xyz"))).bytes());
+        Text three = new Text().bits(Text.block("xyz")).bits(BLOCK).bits(broken(Text.block("xyz")));
+        SortedBlocks y = Due.fed(three.bytes());
         Due.same("two whole, one broken", y.rescue(), 2);
         Due.same("origin", y.block(0), 3);
         Due.same("column", Due.column(y), Text.letters("nnbaaa"));

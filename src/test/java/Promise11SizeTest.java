@@ -38,7 +38,7 @@ public final class Promise11SizeTest {
         }
         x.unpack();
         Due.same("2000", x.size(), 2000);
-        // 400 bytes without a run, in blocks of 8 with seven kinds or eight in as many sixteens
+        // 400 bytes without a run, in 50 blocks
         List<Integer> row = Text.join(Text.rising(200), Text.rising(200));
         Model m = new Model();
         m.in = row;

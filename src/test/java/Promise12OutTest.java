@@ -28,8 +28,10 @@ public final class Promise12OutTest {
         SortedBlocks x = Due.fed(Text.letters("banana"));
         x.pack(1);
         Due.same("size", x.size(), 25);
-        // the last of the total, 0x6AB4, and what fills the byte
-        Due.same("out(24)", x.out(24), Model.bytesOf(Model.bitsOf(Due.out(x))).get(24));
+        Model m = new Model();
+        m.in = Text.letters("banana");
+        m.pack(1);
+        Due.same("out(24)", x.out(24), m.out.get(24));
         refuses(x, 25);
     }
 

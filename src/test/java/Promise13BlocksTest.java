@@ -1,4 +1,3 @@
-import java.util.ArrayList;
 import java.util.List;
 
 /** Promise 13: blocks. */
@@ -127,19 +126,18 @@ public final class Promise13BlocksTest {
     /** As many blocks as can be rescued or unpacked from 400 bytes. */
     static void theMostThatAreRead() {
         int check = Model.checkOf(List.of(97));
+        int one = new Text().letterBlock(check, 0, "10", "0").size();
+        int most = (3200 - 24 - 40) / one;
         Text text = new Text().head(1);
-        List<String> blocks = new ArrayList<>();
         int total = 0;
-        while (24 + (blocks.size() + 1) * 103 + 40 <= 3200) {
-            blocks.add("");
+        for (int k = 0; k < most; k++) {
             text.letterBlock(check, 0, "10", "0");
             total = Model.turn(total) ^ check;
         }
-        text.end(total);
-        SortedBlocks x = Due.fed(text.bytes());
-        Due.same("unpack", x.unpack(), blocks.size());
-        Due.same("blocks", x.blocks(), blocks.size());
-        Due.same("rescue", x.rescue(), blocks.size());
-        Due.same("blocks", x.blocks(), blocks.size());
+        SortedBlocks x = Due.fed(text.end(total).bytes());
+        Due.same("unpack", x.unpack(), most);
+        Due.same("blocks", x.blocks(), most);
+        Due.same("rescue", x.rescue(), most);
+        Due.same("blocks", x.blocks(), most);
     }
 }
