@@ -80,7 +80,6 @@ public final class Promise14BlockTest {
         List<Integer> row = Text.join(List.of(64), Text.rising(63));
         SortedBlocks x = Due.afterPack(row, 8);
         told("64 bytes", x, 63, 64, 65, 3, Model.checkOf(row));
-        Due.feed(x, List.of());
         x.keep(0);
         x.append();
         Due.same("unpack", x.unpack(), 64);
